@@ -45,6 +45,13 @@ public final class PromisesMindTest {
         DUE.is("couple 1 waits all days", x.fate(1, 60, 2), 60);
         DUE.is("couple 1 still goes on", x.fate(1, 60, 0), 0);
         DUE.is("couple 1 is never done", x.fate(1, 17, 2), 17);
+        // on day 1 man 2, as couple 1's deputy, slips with woman 1; from day 2 on couple 0 would need him
+        EngagedByDeputy y = Rows.told("m00;m00;m00;m00;w00;w00;d003;d032;d012;a12;c00;c11;l02199;l11299;");
+        DUE.is("a slip on day 1", y.slips(60, 1), 1);
+        DUE.is("couple 0 did deed 0", y.fate(0, 60, 1), 1);
+        DUE.is("couple 0 waits from day 2 on", y.fate(0, 60, 2), 59);
+        DUE.is("also in fewer days", y.fate(0, 2, 2), 1);
+        DUE.is("couple 1 is lost", y.fate(1, 60, 3), 1);
     }
 
     private static void promise16Then() {
@@ -131,7 +138,12 @@ public final class PromisesMindTest {
         EngagedByDeputy z = Rows.told("m00;m00;w00;w00;d101;c00;c11;s99;");
         DUE.is("woman 0 for woman 1", z.deputies(1, 0), 1);
         DUE.is("wed on day 6, too", z.deputies(1, 1), 6);
-        // man 0 and woman 0 are the deputies of couple 0's two: both of couple 2 need others
+        // he who could stand for man 1, or she who could for woman 1, would slip: the next one does
+        EngagedByDeputy men = Rows.told("m00;m00;m00;w00;w00;d001;c00;c11;s98;l00199;l11099;");
+        DUE.is("man 2 of three, with two women", men.deputies(1, 0), 30);
+        EngagedByDeputy women = Rows.told("m00;m00;w00;w00;w00;d101;c00;c11;s98;l01099;l10199;");
+        DUE.is("woman 2 of three, with two men", women.deputies(1, 0), 3);
+        // couple 1's two are the deputies of couple 0's
         EngagedByDeputy w = Rows.told("m00;m00;m00;w00;w00;w00;d001;d101;c00;c11;s99;");
         DUE.is("man 0 and woman 0", w.deputies(1, 0), 11);
         w.days(11);

@@ -14,6 +14,8 @@ public final class PromisesReportTest {
         DUE.is("a woman without deputies", x.report(1, 0, 99), 99);
         x.sends(0, 1, 0);
         DUE.is("its deputy's deputy may be itself", x.report(0, 0, 40), 53);
+        DUE.is("0 is told, too", x.report(0, 0, 0), 0);
+        DUE.is("99 is told, too", x.report(0, 3, 99), 99);
         DUE.is("v -1", x.report(0, 0, -1), -1);
         DUE.is("v 100", x.report(0, 0, 100), -1);
         DUE.is("no such one", x.report(1, 1, 0), -1);

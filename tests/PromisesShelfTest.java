@@ -96,8 +96,10 @@ public final class PromisesShelfTest {
         DUE.is("shelf 8 ahead of -1 elements", x.row(8, 0, -1), -1);
         DUE.is("shelf -1", x.row(-1, 0, 1), -1);
         element(x, 7, 99, 5);
+        x.put(7, 0, 6);
         DUE.is("a new row", x.row(7, 2, 100), 0);
         element(x, 7, 99, 0);
+        element(x, 7, 0, 0);
         DUE.is("a shorter row", x.row(7, 1, 3), 0);
         elementThrows(x, 7, 3, IllegalStateException.class);
     }
