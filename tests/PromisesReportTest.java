@@ -85,13 +85,22 @@ public final class PromisesReportTest {
         x.sends(0, 3, 1);
         DUE.is("1, 2, 3, then 1 again", x.chain(0, 0, 0), 3);
         DUE.is("it comes again", x.chain(0, 0, 1), 1);
-        // its deputies are 2, 3 and itself, then 2 comes again
-        DUE.is("in the ring", x.chain(0, 1, 0), 3);
+        // 2 and 3 stand behind it, then it comes again itself
+        DUE.is("in the ring", x.chain(0, 1, 0), 2);
         DUE.is("it comes again there, too", x.chain(0, 1, 1), 1);
         x.sends(0, 3, 4);
         x.sends(0, 4, 0);
-        DUE.is("all five", x.chain(0, 0, 0), 5);
-        DUE.is("in a ring", x.chain(0, 2, 1), 1);
+        DUE.is("a ring of all five: four behind each", x.chain(0, 0, 0), 4);
+        DUE.is("in that ring", x.chain(0, 2, 1), 1);
+        x.sends(0, 4, 2);
+        DUE.is("four, then 2 again, at the end of the longest tail", x.chain(0, 0, 0), 4);
+        DUE.is("2 comes again", x.chain(0, 0, 1), 1);
+        x.sends(0, 1, 0);
+        DUE.is("a ring of two: one deputy", x.chain(0, 0, 0), 1);
+        DUE.is("the one asked for comes again", x.chain(0, 0, 1), 1);
+        x.sends(0, 1, 1);
+        DUE.is("out of the ring: one deputy, too", x.chain(0, 0, 0), 1);
+        DUE.is("but none comes again", x.chain(0, 0, 1), 0);
         DUE.is("a woman", x.chain(1, 0, 0), 0);
         DUE.is("what 2", x.chain(0, 0, 2), -1);
         DUE.is("what -1", x.chain(0, 0, -1), -1);

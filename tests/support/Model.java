@@ -725,13 +725,13 @@ public final class Model {
         if (!now.is(side, k) || !in(what, 0, 1)) {
             return -1;
         }
-        List<Integer> come = new ArrayList<>();
+        List<Integer> standing = new ArrayList<>(List.of(k));
         int next = now.of(side, k).deputy;
-        while (next >= 0 && !come.contains(next)) {
-            come.add(next);
+        while (next >= 0 && !standing.contains(next)) {
+            standing.add(next);
             next = now.of(side, next).deputy;
         }
-        return what == 0 ? come.size() : next >= 0 ? 1 : 0;
+        return what == 0 ? standing.size() - 1 : next >= 0 ? 1 : 0;
     }
 
     private static int tell(BigInteger number, int i) {

@@ -492,11 +492,12 @@ public final class EngagedByDeputy {
         if (!now.hasOne(side, k) || what < 0 || what > 1) {
             return WRONG;
         }
-        int met = 0;
+        // the one itself stands first in its chain, so it comes again if it is a deputy behind itself
+        int met = 1 << k;
         int many = 0;
         int deputy = now.deputies[Valley.place(side, k)];
-        // one more step than there are ones, so that one surely comes again
-        for (int step = 0; step <= SIDE_ROOM && deputy != NOBODY; step++) {
+        // as many steps as there can be ones, so that one surely comes again
+        for (int step = 0; step < SIDE_ROOM && deputy != NOBODY; step++) {
             if ((met >> deputy & 1) == 1) {
                 return what == 0 ? many : 1;
             }
