@@ -16,6 +16,16 @@ public final class RulesTest {
         }
     }
 
+    /** Rule 4 has System.arraycopy and its like over arrays of numbers alone. */
+    private static void onlyNumbersAreCopied(String code) {
+        Matcher array = Pattern.compile("\\b[A-Z]\\w*\\[\\] (\\w+)").matcher(code);
+        while (array.find()) {
+            String name = array.group(1);
+            without(code, "4", "arraycopy\\([^;]*\\b" + name + "\\b", "Arrays\\.\\w+\\([^;]*\\b" + name + "\\b",
+                "\\b" + name + "\\.clone\\b");
+        }
+    }
+
     private static void methodsAreShort(String code) {
         List<String> lines = code.lines().toList();
         int begin = -1;
@@ -45,6 +55,7 @@ public final class RulesTest {
             "\\bextends \\w*(Exception|Error)\\b", "\\b(equals|hashCode|toString)\\(", "\\btry \\(",
             "catch \\((?!UnsupportedOperationException|IllegalArgumentException|IllegalStateException)");
         without(code, "9", "while \\(true\\)", "for \\(;;\\)", "for \\([^;]*; *;");
+        onlyNumbersAreCopied(code);
         methodsAreShort(code);
         DUE.end();
     }

@@ -1229,7 +1229,6 @@ public final class EngagedByDeputy {
 
         void takeFrom(Valley other) {
             System.arraycopy(other.ones, 0, ones, 0, ones.length);
-            System.arraycopy(other.natures, 0, natures, 0, natures.length);
             System.arraycopy(other.deputies, 0, deputies, 0, deputies.length);
             System.arraycopy(other.boundTo, 0, boundTo, 0, boundTo.length);
             System.arraycopy(other.likings, 0, likings, 0, likings.length);
@@ -1241,6 +1240,9 @@ public final class EngagedByDeputy {
             couples = other.couples;
             slip = other.slip;
             day = other.day;
+            for (int i = 0; i < natures.length; i++) {
+                natures[i] = other.natures[i];
+            }
         }
     }
 
