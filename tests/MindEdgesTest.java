@@ -344,6 +344,10 @@ public final class MindEdgesTest {
         DUE.is("0 and 2 are alike", x.bestWho(0), 0);
         DUE.is("deed 5 does not help", x.bestWho(5), 0);
         DUE.is("it waits still", x.fate(1, 60, 2), 60);
+        // man 1 and woman 1 do deeds 1 to 4 for couple 0; if they also meet at a deed 0, they slip at deed 4. They do so as
+        // couple 1's two with 0, and as couple 0's deputies with 1; with 2 man 2 does it (there is no 3, which would be best)
+        EngagedByDeputy ring = Rows.told("m00;m10;m00;w00;w00;d020;d012;d001;d101;c00;c11;a50;s24;");
+        DUE.is("2 in a ring of three", ring.bestWho(0), 2);
         // a deed that is done already does not matter
         EngagedByDeputy y = Rows.told("m00;w00;c00;y02;");
         DUE.is("a deed done", y.bestWho(1), 0);
