@@ -99,11 +99,14 @@ public final class EngagedByDeputy {
         }
         year.begin(now);
         int statements = 0;
-        for (int at = 0; at < text.size; at += digitsBehind(text.byteAt(at)) + 2) {
-            if (!doStatement(text, at)) {
-                return UNDOABLE - at;
+        // letters stand in a text only where statements begin
+        for (int at = 0; at < text.size; at++) {
+            if (digitsBehind(text.byteAt(at)) > 0) {
+                if (!doStatement(text, at)) {
+                    return UNDOABLE - at;
+                }
+                statements++;
             }
-            statements++;
         }
         now.takeFrom(year.valley);
         return statements;
@@ -1541,23 +1544,24 @@ public final class EngagedByDeputy {
             clear();
             unleft = 0;
             mostLiking = -1;
-            tryMan(0, Math.max(0, valley.ones[MEN] - valley.ones[WOMEN]), 0);
+            tryMan(this, 0, Math.max(0, valley.ones[MEN] - valley.ones[WOMEN]), 0);
         }
 
-        private void tryMan(int man, int spare, int together) {
+        /** Tries for this man and all behind him; as deep as there are men, five at most. */
+        private static void tryMan(Matching begun, int man, int spare, int together) {
+            Valley valley = begun.valley;
             if (man >= valley.ones[MEN] || man >= SIDE_ROOM) {
-                noteMatching(together);
+                begun.noteMatching(together);
                 return;
             }
             for (int woman = 0; woman < valley.ones[WOMEN]; woman++) {
-                if (husbands[woman] == NOBODY) {
-                    join(man, woman);
-                    tryMan(man + 1, spare, together + likingOfBoth(man, woman));
-                    part(man, woman);
+                if (begun.joinFree(man, woman)) {
+                    tryMan(begun, man + 1, spare, together + begun.likingOfBoth(man, woman));
+                    begun.part(man, woman);
                 }
             }
             if (spare > 0) {
-                tryMan(man + 1, spare - 1, together);
+                tryMan(begun, man + 1, spare - 1, together);
             }
         }
 
